@@ -10,6 +10,8 @@ public final class AllTest {
         count();
         digestOfNothing();
         digestByHand();
+        digestOfOneClass();
+        digestOfWhatDoesNotSuit();
         CHECKS.end();
     }
 
@@ -51,7 +53,11 @@ public final class AllTest {
     }
 
     private static void latestImage() {
-        SignBook x = Checks.bookOf("0;-r0");
+        SignBook x = Checks.bookOf("1;-rx");
+        CHECKS.due("22: image() with a way", x.image(), 0);
+        CHECKS.due("22: restore()", x.restore(), 0);
+        CHECKS.due("22: the way is there", x.about(0, 3), 1);
+        x = Checks.bookOf("0;-r0");
         CHECKS.due("21: image() of nothing", x.image(), 0);
         Checks.typeInto(x, 2, "0");
         Checks.typeInto(x, 3, "0");
@@ -98,6 +104,10 @@ public final class AllTest {
         }
         x.change(1, 1, 3);
         CHECKS.due("23: one that goes no way", x.count(3), 1);
+        SignBook first = Checks.bookOf("210;-fx,-,-");
+        CHECKS.due("23: parameters of class 0, too", first.count(1), 3);
+        CHECKS.due("23: its second one goes no way", first.count(3), 2);
+        CHECKS.due("23: its first one goes both", first.count(4), 1);
         for (int what : new int[] {-1, 11, Integer.MIN_VALUE, Integer.MAX_VALUE}) {
             CHECKS.refused(x, "23: what " + what, () -> x.count(what), SignBook.OUTSIDE);
         }
@@ -148,5 +158,29 @@ public final class AllTest {
             1,
             'x',
             2, 1, 3, 0, 0, 2, 3, 1, 1, 1, 1));
+    }
+
+    private static void digestOfOneClass() {
+        SignBook x = Checks.bookOf("0;-");
+        Checks.typeInto(x, 1, "0");
+        CHECKS.due("24: slot 0 is empty", x.digest(), digestOf(
+            0, -1, 0, -1, -1, 0,
+            0, 1, 0, 0, 0, 0, 0, 0, 0,
+            0,
+            1, 0, 0, 0, 0, 1, 1, 0, 0, 1, 0));
+    }
+
+    /** Slot 0 for slot 1, not the other way round. */
+    private static void digestOfWhatDoesNotSuit() {
+        SignBook x = Checks.bookOf("00;-,<0");
+        Checks.typeInto(x, 0, "0");
+        Checks.typeInto(x, 1, "1");
+        CHECKS.due("24: it does not suit", x.digest(), digestOf(
+            0, -1, 0, -1, -1, 0,
+            0, 0, 0, -1, -1, 1,
+            1, 0, 1, 1, 0, 0, 0, 0, 0, 0,
+            0,
+            0,
+            2, 0, 0, 0, 0, 2, 2, 0, 0, 1, 0));
     }
 }

@@ -9,6 +9,7 @@ public final class BookTest {
         faults();
         booksThatAreNone();
         anotherBook();
+        anotherBookOfLess();
         about();
         members();
         as();
@@ -102,6 +103,12 @@ public final class BookTest {
         fault("0;-g0", 3);
         fault("0;-r:", 4);
         fault("0;-r/", 4);
+        SignBook x = new SignBook();
+        Checks.write(x, "1;-r" + "0".repeat(85) + "x");
+        for (int time = 0; time < 5; time++) {
+            CHECKS.due("4: fault() once more", x.fault(), 90);
+        }
+        CHECKS.due("4: book() after that", x.book(), 1);
     }
 
     private static void none(String text) {
@@ -142,6 +149,24 @@ public final class BookTest {
         CHECKS.due("5: book() of one", x.book(), 1);
         CHECKS.due("5: no members are left", x.count(2), 0);
         CHECKS.due("5: no class 1 is left", x.about(1, 0), SignBook.UNKNOWN);
+        CHECKS.due("5: no parameter of class 3 is left", x.hide(3, 0, 1, 0), SignBook.UNKNOWN);
+    }
+
+    /** Nothing of a book, or of a page that was none, is left in the next one. */
+    private static void anotherBookOfLess() {
+        SignBook x = Checks.bookOf("0122;-r0,<0r2xxr1xrx,<1xr0,<2xyrxayfx");
+        Checks.write(x, "0122;-,<0r2xxr1xrx,<1xr0,<2xyrxayfx,");
+        CHECKS.due("5: it is none", x.book(), SignBook.STATE);
+        Checks.write(x, "0122;-,-,-r0,-");
+        CHECKS.due("5: book()", x.book(), 4);
+        for (int number = 0; number < 4; number++) {
+            CHECKS.due("5: nothing is above " + number, x.about(number, 1), SignBook.NONE);
+            CHECKS.due("5: members of " + number, x.about(number, 2), number == 2 ? 1 : 0);
+        }
+        CHECKS.due("5: all go no way", x.count(3), 5);
+        CHECKS.due("5: rounds()", x.rounds(), 0);
+        CHECKS.due("5: signs", x.member(2, 0, 3), 1);
+        CHECKS.due("5: hide()", x.hide(1, 0, 1, 1), 0);
     }
 
     private static void tells(SignBook x, int number, int... want) {

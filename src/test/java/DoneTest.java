@@ -28,6 +28,8 @@ public final class DoneTest {
         CHECKS.due("9: change(0, 0, 4)", x.change(0, 0, 4), 3);
         CHECKS.due("9: change(0, 0, 2)", x.change(0, 0, 2), 4);
         CHECKS.due("9: the way of a field", x.about(0, 3), 3);
+        CHECKS.due("9: change(0, 0, 0)", x.change(0, 0, 0), 2);
+        CHECKS.due("9: the way of a plain one", x.about(0, 3), 1);
         for (int wrong : new int[] {-1, 2, Integer.MIN_VALUE, Integer.MAX_VALUE}) {
             CHECKS.refused(x, "9: number " + wrong, () -> x.change(wrong, 0, 9), SignBook.UNKNOWN);
             CHECKS.refused(x, "9: member " + wrong, () -> x.change(1, wrong, 9), SignBook.UNKNOWN);

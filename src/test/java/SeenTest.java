@@ -8,7 +8,9 @@ public final class SeenTest {
         refusedSee();
         forget();
         drawn();
-        drawnByHand();
+        drawnByHand("2010;-rxay,-,-rx,<1", "13");
+        drawnByHand("0120;-,<0rx,-rxay,<0", "03");
+        drawnByHand("1100;-rx,-ax,-,<2", "23");
         refusedDrawn();
         CHECKS.end();
     }
@@ -98,13 +100,13 @@ public final class SeenTest {
         return (int) ((1103515245L * seed + 12345L) % (1L << 31));
     }
 
-    /** The draws of a pair with arguments of arguments, one by one. */
-    private static void drawnByHand() {
-        SignBook x = Checks.bookOf("2010;-rxay,-,-,-");
-        for (int first = 0; first < 200; first++) {
+    /** The draws of pairs with arguments of arguments, one by one. */
+    private static void drawnByHand(String text, String plain) {
+        for (int first = 0; first < 2000; first++) {
+            SignBook x = Checks.bookOf(text);
             int[] seed = {first};
-            String one = drawType(seed);
-            String other = drawType(seed);
+            String one = drawType(seed, text, plain);
+            String other = drawType(seed, text, plain);
             CHECKS.due("20: signs of " + one + " and " + other, x.drawn(1, first, 1), one.length() + other.length());
             CHECKS.due("20: the seed behind them", x.drawn(1, first, 2), seed[0]);
             Checks.typeInto(x, 0, one);
@@ -118,16 +120,14 @@ public final class SeenTest {
         return seed[0] / 65536 % howMany;
     }
 
-    private static String drawType(int[] seed) {
-        int[] parameters = {2, 0, 1, 0};
-        int[] plain = {1, 3};
+    private static String drawType(int[] seed, String parameters, String plain) {
         int number = draw(seed, 4);
         StringBuilder text = new StringBuilder().append(number);
-        for (int many = parameters[number]; many > 0; many--) {
+        for (int many = parameters.charAt(number) - '0'; many > 0; many--) {
             int argument = draw(seed, 4);
             text.append(argument);
-            for (int more = parameters[argument]; more > 0; more--) {
-                text.append(plain[draw(seed, 2)]);
+            for (int more = parameters.charAt(argument) - '0'; more > 0; more--) {
+                text.append(plain.charAt(draw(seed, plain.length())));
             }
         }
         return text.toString();

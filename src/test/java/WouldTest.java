@@ -7,6 +7,7 @@ public final class WouldTest {
         rounds();
         sign();
         suitsByWays();
+        suitsOfTheDeepest();
         suitsByWhatIsAbove();
         suitsOfWrongSlots();
         stores();
@@ -38,6 +39,9 @@ public final class WouldTest {
         rounds("1;-rxa0x", 2);
         rounds("1;-axa0x", 2);
         rounds("2;-rxa0yx", 2);
+        rounds("1111;-r1x,-r2x,-r3x,-rxa0x", 8);
+        rounds("0222;-,-r10xr2y0,-r20xr3y0,-r30xrya1y0", 12);
+        rounds("1222;-r1x0x,-r1xxr2y0y,-r2xxr3y0y,-r3xxrya0y", 11);
         SignBook x = Checks.bookOf("11;-r1x,-rx");
         x.change(0, 0, 3);
         CHECKS.due("13: rounds() after a change", x.rounds(), 1);
@@ -96,6 +100,16 @@ public final class WouldTest {
         suits(free, "320", "330", 0);
     }
 
+    private static void suitsOfTheDeepest() {
+        String deep = "2".repeat(14);
+        for (String kind : new String[] {"r", "a", "f"}) {
+            SignBook x = Checks.bookOf("001;-,<0,-" + kind + "x");
+            suits(x, deep + "1", deep + "0", kind.equals("f") ? 0 : 1);
+            suits(x, deep + "0", deep + "1", 0);
+            suits(x, deep + "0", deep + "0", 1);
+        }
+    }
+
     private static void suitsByWhatIsAbove() {
         SignBook x = Checks.bookOf("0122;-,-rx,<1y,<2y0");
         suits(x, "3" + "0" + "10", "2" + "10" + "0", 1);
@@ -106,6 +120,12 @@ public final class WouldTest {
         suits(x, "2" + "0" + "10", "110", 1);
         suits(x, "2" + "0" + "10", "10", 0);
         suits(x, "2" + "0" + "3010", "110", 1);
+        SignBook turned = Checks.bookOf("0022;-,<0,-rxry,<2yx");
+        suits(turned, "301", "210", 1);
+        suits(turned, "310", "201", 1);
+        suits(turned, "301", "200", 1);
+        suits(turned, "301", "201", 0);
+        suits(turned, "310", "210", 0);
         SignBook own = Checks.bookOf("100;-rx,<01,<1");
         suits(own, "1", "01", 1);
         suits(own, "1", "001", 1);
