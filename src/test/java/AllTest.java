@@ -113,21 +113,13 @@ public final class AllTest {
         }
     }
 
-    private static long digestOf(int... told) {
-        long h = 1381;
-        for (int number : told) {
-            h = 31 * h + number;
-        }
-        return h;
-    }
-
     private static void digestOfNothing() {
         SignBook x = new SignBook();
-        CHECKS.due("24: a new object", x.digest(), digestOf(0, 0, 0, 0, 0, 0, 0, 0,
+        CHECKS.due("24: a new object", x.digest(), Checks.digestOf(0, 0, 0, 0, 0, 0, 0, 0,
             0, 0, 0, 0, 0, 0, 0, 0, 0, 0, 0));
         x.letter('a');
         x.letter('b');
-        CHECKS.due("24: with a page", x.digest(), digestOf(0, 0, 0, 0, 0, 0, 0, 0,
+        CHECKS.due("24: with a page", x.digest(), Checks.digestOf(0, 0, 0, 0, 0, 0, 0, 0,
             97, 98, 0, 0, 0, 0, 0, 0, 0, 0, 2, 0, 0));
     }
 
@@ -135,7 +127,7 @@ public final class AllTest {
         SignBook x = Checks.bookOf("01;-r0,<0rxh1x");
         Checks.typeInto(x, 0, "10");
         x.see(1, 0, 0, false);
-        CHECKS.due("24: slot 1 is empty", x.digest(), digestOf(
+        CHECKS.due("24: slot 1 is empty", x.digest(), Checks.digestOf(
             0, -1, 1, -1, -1, 0,
             0, -1, -1, 1, 31, 0,
             1, 0, 2, 1, -1, 1,
@@ -147,7 +139,7 @@ public final class AllTest {
         Checks.typeInto(x, 1, "0");
         x.hide(1, 0, 1, 0);
         x.letter('x');
-        CHECKS.due("24: slots 0 and 1", x.digest(), digestOf(
+        CHECKS.due("24: slots 0 and 1", x.digest(), Checks.digestOf(
             0, -1, 1, -1, -1, 0,
             0, -1, -1, 1, 31, 0,
             1, 0, 2, 1, -1, 1,
@@ -163,7 +155,7 @@ public final class AllTest {
     private static void digestOfOneClass() {
         SignBook x = Checks.bookOf("0;-");
         Checks.typeInto(x, 1, "0");
-        CHECKS.due("24: slot 0 is empty", x.digest(), digestOf(
+        CHECKS.due("24: slot 0 is empty", x.digest(), Checks.digestOf(
             0, -1, 0, -1, -1, 0,
             0, 1, 0, 0, 0, 0, 0, 0, 0,
             0,
@@ -175,7 +167,7 @@ public final class AllTest {
         SignBook x = Checks.bookOf("00;-,<0");
         Checks.typeInto(x, 0, "0");
         Checks.typeInto(x, 1, "1");
-        CHECKS.due("24: it does not suit", x.digest(), digestOf(
+        CHECKS.due("24: it does not suit", x.digest(), Checks.digestOf(
             0, -1, 0, -1, -1, 0,
             0, 0, 0, -1, -1, 1,
             1, 0, 1, 1, 0, 0, 0, 0, 0, 0,

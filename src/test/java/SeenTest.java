@@ -8,9 +8,9 @@ public final class SeenTest {
         refusedSee();
         forget();
         drawn();
-        drawnByHand("2010;-rxay,-,-rx,<1", "13");
-        drawnByHand("0120;-,<0rx,-rxay,<0", "03");
-        drawnByHand("1100;-rx,-ax,-,<2", "23");
+        drawnByHand("2010;-rxay,-,-rx,<1");
+        drawnByHand("0120;-,<0rx,-rxay,<0");
+        drawnByHand("1100;-rx,-ax,-,<2");
         refusedDrawn();
         CHECKS.end();
     }
@@ -93,44 +93,22 @@ public final class SeenTest {
         SignBook y = Checks.bookOf("0;-");
         CHECKS.due("20: all suit", y.drawn(60, Integer.MAX_VALUE, 0), 60);
         CHECKS.due("20: one sign each", y.drawn(60, 0, 1), 120);
-        CHECKS.due("20: one draw a sign", y.drawn(1, 0, 2), next(next(0)));
-    }
-
-    private static int next(int seed) {
-        return (int) ((1103515245L * seed + 12345L) % (1L << 31));
+        CHECKS.due("20: one draw a sign", y.drawn(1, 0, 2), Drawing.next(Drawing.next(0)));
     }
 
     /** The draws of pairs with arguments of arguments, one by one. */
-    private static void drawnByHand(String text, String plain) {
+    private static void drawnByHand(String text) {
         for (int first = 0; first < 2000; first++) {
             SignBook x = Checks.bookOf(text);
-            int[] seed = {first};
-            String one = drawType(seed, text, plain);
-            String other = drawType(seed, text, plain);
+            Drawing drawing = new Drawing(text.substring(0, text.indexOf(';')), first);
+            String one = drawing.type();
+            String other = drawing.type();
             CHECKS.due("20: signs of " + one + " and " + other, x.drawn(1, first, 1), one.length() + other.length());
-            CHECKS.due("20: the seed behind them", x.drawn(1, first, 2), seed[0]);
+            CHECKS.due("20: the seed behind them", x.drawn(1, first, 2), drawing.seed);
             Checks.typeInto(x, 0, one);
             Checks.typeInto(x, 1, other);
             CHECKS.due("20: " + one + " for " + other, x.drawn(1, first, 0), x.suits(0, 1));
         }
-    }
-
-    private static int draw(int[] seed, int howMany) {
-        seed[0] = next(seed[0]);
-        return seed[0] / 65536 % howMany;
-    }
-
-    private static String drawType(int[] seed, String parameters, String plain) {
-        int number = draw(seed, 4);
-        StringBuilder text = new StringBuilder().append(number);
-        for (int many = parameters.charAt(number) - '0'; many > 0; many--) {
-            int argument = draw(seed, 4);
-            text.append(argument);
-            for (int more = parameters.charAt(argument) - '0'; more > 0; more--) {
-                text.append(plain.charAt(draw(seed, plain.length())));
-            }
-        }
-        return text.toString();
     }
 
     private static void refusedDrawn() {

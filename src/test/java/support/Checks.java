@@ -25,6 +25,20 @@ final class Checks {
         }
     }
 
+    /** What lies next to a range, far from it, and in it if only a byte or a char of it were looked at. */
+    static int[] beyond(int least, int most) {
+        return new int[] {least - 1, most + 1, Integer.MIN_VALUE, Integer.MAX_VALUE, least + 256, least + 65536};
+    }
+
+    /** What digest() is of these numbers. */
+    static long digestOf(int... told) {
+        long h = 1381;
+        for (int number : told) {
+            h = 31 * h + number;
+        }
+        return h;
+    }
+
     static void write(SignBook book, String text) {
         book.blank();
         for (int at = 0; at < text.length(); at++) {
