@@ -657,12 +657,16 @@ public final class SignBook {
             return open == 0;
         }
 
-        /** The place behind the closed type that begins at a place of a row. */
+        /**
+         * The place behind the closed type that begins at a place of a row. It is asked where calls are
+         * as deep as they may be, so it asks no other one how many parameters a class has.
+         */
         int behind(int[] row, int at) {
             int open = 1;
             int place = Math.max(at, 0);
             while (place < row.length && open > 0) {
-                open += parametersOf(row[place]) - 1;
+                int number = row[place];
+                open += number >= 0 && number < parameters.length ? parameters[number] - 1 : -1;
                 place++;
             }
             return place;

@@ -130,7 +130,7 @@ public final class DoingEdgesTest {
         DOC.promise(10, "STATE: no BOOK, or it is none");
         SignBook x = Checks.bookOf("012;-,-,-");
         Checks.typeInto(x, 0, "10");
-        for (String text : new String[] {"", "1", "20", "00", "100", "2000", "3", "30", "x", "1x", "2xy", "0;", "-", "/", ":",
+        for (String text : new String[] {"", "1", "20", "00", "01", "020", "100", "2000", "3", "30", "x", "1x", "2xy", "0;", "-", "/", ":",
             "0 ", "1".repeat(16), "1".repeat(90), "0".repeat(16), "1".repeat(16) + "x"}) {
             Checks.write(x, text);
             DOC.refused(x, "type(0) of " + text, () -> x.type(0), SignBook.STATE);

@@ -94,6 +94,10 @@ public final class TellingEdgesTest {
         member(two, 3, 0, 0, 2, 1, 3, 31, 0);
         member(two, 3, 1, 1, 1, 2, 3, 31, 0);
         member(two, 3, 2, 2, 0, 3, 3, 31, 0);
+        SignBook apart = Checks.bookOf("2;-rxayr0xy");
+        member(apart, 0, 0, 0, 1, 0, 1);
+        member(apart, 0, 1, 1, 0, 2, 1);
+        member(apart, 0, 2, 0, 1, 2, 3);
         // It adds what others add, too; what goes no way adds none to either.
         SignBook same = Checks.bookOf("22;-rxrx,-f1xyr1xx");
         member(same, 0, 0, 0, 1, 0, 1);

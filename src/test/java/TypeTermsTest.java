@@ -76,6 +76,11 @@ public final class TypeTermsTest {
             suits(book, "220", "221", way == 0 ? 1 : 0);
             suits(book, "221", "220", way == 3 ? 0 : 1);
         }
+        // In an argument that goes both ways, too, what goes no way may be any.
+        String free = "0011;-,<0,-,-fx";
+        suits(free, "320", "321", 1);
+        suits(free, "3320", "3321", 1);
+        suits(free, "320", "330", 0);
         String two = "0022;-,<0,-rxay,-fxfy";
         for (int bits = 0; bits < 16; bits++) {
             String one = "" + (bits & 1) + (bits >> 1 & 1);

@@ -133,6 +133,12 @@ public final class WouldEdgesTest {
         suits(x, fourteen + "2", fourteen + "0", 1);
         suits(x, fourteen + "0", fourteen + "2", 0);
         suits(x, "3" + fourteen.substring(2) + "0", "3" + fourteen.substring(2) + "2", 1);
+        // As deep, where the parameter goes both ways.
+        SignBook alike = Checks.bookOf("001;-,<0,-fx");
+        String twos = "2".repeat(14);
+        suits(alike, twos + "0", twos + "0", 1);
+        suits(alike, twos + "1", twos + "0", 0);
+        suits(alike, twos + "0", twos + "1", 0);
         // Each step up puts in a class, and so goes on as deep as the other one is.
         SignBook up = Checks.bookOf("10;-rx,<01");
         suits(up, "1", "0".repeat(14) + "1", 1);
@@ -196,7 +202,7 @@ public final class WouldEdgesTest {
 
     private static void storesUnknown() {
         DOC.promise(16, "UNKNOWN: what, in (empty ones, too), member");
-        SignBook x = Checks.bookOf("001;-,-r0,-axrxa22x");
+        SignBook x = Checks.bookOf("001;-a0,-,-axrxa22x");
         Checks.typeInto(x, 0, "0");
         Checks.typeInto(x, 1, "20");
         Checks.typeInto(x, 2, "2".repeat(14) + "0");
@@ -216,7 +222,8 @@ public final class WouldEdgesTest {
         for (int member : Checks.beyond(0, 2)) {
             DOC.refused(x, "member " + member, () -> x.stores(0, 1, member), SignBook.UNKNOWN);
         }
-        DOC.refused(x, "a class without members", () -> x.stores(0, 0, 0), SignBook.UNKNOWN);
+        Checks.typeInto(x, 3, "1");
+        DOC.refused(x, "a class without members", () -> x.stores(0, 3, 0), SignBook.UNKNOWN);
         DOC.refused(NO_BOOK, "without a book", () -> NO_BOOK.stores(0, 0, 0), SignBook.UNKNOWN);
     }
 
