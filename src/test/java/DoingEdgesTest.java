@@ -70,6 +70,10 @@ public final class DoingEdgesTest {
                 DOC.refused(x, "member " + wrong + " of class 1", () -> x.change(1, wrong, kind), SignBook.UNKNOWN);
             }
         }
+        SignBook four = Checks.bookOf("0000;-r0a0f0,-r0a0f0,-r0a0f0,-r0a0f0");
+        for (int wrong : Checks.beyond(0, 3)) {
+            DOC.refused(four, "number " + wrong + " of four", () -> four.change(wrong, 0, 1), SignBook.UNKNOWN);
+        }
         DOC.refused(x, "class 2 has none", () -> x.change(2, 0, 1), SignBook.UNKNOWN);
         DOC.refused(x, "member -1 of class 2", () -> x.change(2, -1, 1), SignBook.UNKNOWN);
         DOC.refused(NO_BOOK, "without a book", () -> NO_BOOK.change(0, 0, 5), SignBook.UNKNOWN);
@@ -183,6 +187,12 @@ public final class DoingEdgesTest {
         DOC.due("in arguments", x.read(0, 2, 1), 7);
         DOC.slot(x, 1, "2" + "0" + "1" + "0" + "100");
         DOC.slot(x, 0, "2" + "100" + "0");
+        SignBook first = Checks.bookOf("20;-rxry,-");
+        Checks.typeInto(first, 0, "0" + "011" + "1");
+        DOC.due("x of class 0", first.read(0, 0, 1), 3);
+        DOC.slot(first, 1, "011");
+        DOC.due("y of class 0", first.read(0, 1, 1), 1);
+        DOC.slot(first, 1, "1");
     }
 
     private static void readIntoTheSame() {

@@ -63,6 +63,10 @@ public final class SeenEdgesTest {
                 }
             }
         }
+        SignBook four = Checks.bookOf("0000;-r0a0f0,-r0a0f0,-r0a0f0,-r0a0f0");
+        for (int wrong : Checks.beyond(0, 3)) {
+            DOC.refused(four, "number " + wrong + " of four", () -> four.see(wrong, 0, 0, true), SignBook.UNKNOWN);
+        }
         DOC.refused(NO_BOOK, "without a book", () -> NO_BOOK.see(0, 0, 3, true), SignBook.UNKNOWN);
     }
 

@@ -2,6 +2,7 @@
 public final class TellingEdgesTest {
     private static final Sentences DOC = Sentences.ofPromises(6, 8);
     private static final SignBook NO_BOOK = new SignBook();
+    private static final String FOUR = "0000;-r0a0f0,-r0a0f0,-r0a0f0,-r0a0f0";
 
     public static void main(String[] args) {
         aboutClass();
@@ -35,6 +36,8 @@ public final class TellingEdgesTest {
         about(Checks.bookOf("2;-rxay"), 0, 2, -1, 2, 1, 2, 0);
         about(Checks.bookOf("2;-rxayf0xy"), 0, 2, -1, 3, 3, 3, 0);
         about(Checks.bookOf("2222;-,-,-,-axryry"), 3, 2, -1, 3, 2, 1, 0);
+        // Three members are all there are: the next class has its own.
+        about(Checks.bookOf("11;-hxhxhx,-fx"), 0, 1, -1, 3, 0, -1, 0);
     }
 
     private static void aboutChains() {
@@ -138,6 +141,10 @@ public final class TellingEdgesTest {
                 DOC.refused(x, "member " + wrong + " of class 1", () -> x.member(1, wrong, asked), SignBook.UNKNOWN);
             }
         }
+        SignBook four = Checks.bookOf(FOUR);
+        for (int wrong : Checks.beyond(0, 3)) {
+            DOC.refused(four, "number " + wrong + " of four", () -> four.member(wrong, 0, 0), SignBook.UNKNOWN);
+        }
         DOC.refused(x, "class 2 has none", () -> x.member(2, 0, 0), SignBook.UNKNOWN);
         DOC.refused(x, "member -1 of class 2", () -> x.member(2, -1, 0), SignBook.UNKNOWN);
         SignBook one = Checks.bookOf("0;-r0");
@@ -189,6 +196,10 @@ public final class TellingEdgesTest {
                 DOC.refused(x, "member " + wrong + " of class 0", () -> x.as(0, wrong, asked), SignBook.UNKNOWN);
                 DOC.refused(x, "member " + wrong + " of class 1", () -> x.as(1, wrong, asked), SignBook.UNKNOWN);
             }
+        }
+        SignBook four = Checks.bookOf(FOUR);
+        for (int wrong : Checks.beyond(0, 3)) {
+            DOC.refused(four, "number " + wrong + " of four", () -> four.as(wrong, 0, 0), SignBook.UNKNOWN);
         }
         DOC.refused(x, "class 2 has none", () -> x.as(2, 0, 0), SignBook.UNKNOWN);
         DOC.refused(NO_BOOK, "without a book", () -> NO_BOOK.as(0, 0, 5), SignBook.UNKNOWN);
