@@ -659,11 +659,11 @@ public final class SignBook {
 
         /**
          * The place behind the closed type that begins at a place of a row. It is asked where calls are
-         * as deep as they may be, so it asks no other one how many parameters a class has.
+         * as deep as they may be, so it calls nothing, not even to ask how many parameters a class has.
          */
         int behind(int[] row, int at) {
             int open = 1;
-            int place = Math.max(at, 0);
+            int place = at < 0 ? 0 : at;
             while (place < row.length && open > 0) {
                 int number = row[place];
                 open += number >= 0 && number < parameters.length ? parameters[number] - 1 : -1;
